@@ -1047,7 +1047,7 @@ public final class QuotaParish {
             for (int h = 0; h < MAX_HOUSES; h++) {
                 tax[h] = 0;
                 cutOff[h] = 0;
-                if (parish.hasHouse(h) && (exempt >> h & 1) == 0) {
+                if (h < parish.houses && (exempt >> h & 1) == 0) {
                     all += parish.goods[h];
                 }
             }
@@ -1109,7 +1109,7 @@ public final class QuotaParish {
             assess();
         }
 
-        /** EXEMPT and TAX anew: due whenever OFFICES, RULES, GOODS or the QUOTA changed. */
+        /** EXEMPT and TAX anew. */
         void assess() {
             exempt = now.exemptBy(now.offices, cut);
             levy.share(now, now.quota, exempt);
@@ -1152,7 +1152,8 @@ public final class QuotaParish {
             }
             paid += paidLately;
             year++;
-            assess();
+            // GOODS do not tell who is EXEMPT, so TAX alone is anew.
+            levy.share(now, now.quota, exempt);
             return true;
         }
 
@@ -1739,7 +1740,7 @@ public final class QuotaParish {
             houses = parish.houses;
             for (int set = 0; set <= parish.everyHouse() && set < MAX_SETS; set++) {
                 levy.share(parish, parish.quota, parish.exemptBy(set, 0));
-                if (isAsLogged(parish, log)) {
+                if (size < MAX_SETS && isAsLogged(parish, log)) {
                     sets[size] = set;
                     taxes[size] = packedTaxes();
                     size++;
