@@ -89,6 +89,8 @@ public final class QuotaParish {
         told.place = NONE;
         int slot = told.slotFor(sort, at);
         if (slot == NO_SUCH) {
+            // The tape is taken all the same, though no text is read.
+            told.length = 0;
             return NO_SUCH;
         }
         reader.read(sort);
@@ -473,7 +475,11 @@ public final class QuotaParish {
         if (what == 1) {
             return fitting.bestQuestion();
         }
-        return what < 10 ? fitting.sureOf(what - 2) : fitting.fittingSet(what - 10);
+        if (what >= 10) {
+            return fitting.fittingSet(what - 10);
+        }
+        int house = what - 2;
+        return house < MAX_HOUSES ? fitting.sureOf(house) : NO_SUCH;
     }
 
     public int odds(int parish, int log, int house, boolean under) {

@@ -41,13 +41,15 @@ public final class LogTest {
 
     private static void fits() {
         // By the SETS 0 .. 3 TAX is 5 5, 0 10, 10 0, 0 0; the OFFICE told does not count.
-        fits(TWO, "paid 0 0;", new int[][] {{0, 2}, {1, 1}, {2, 1}, {3, NONE}, {4, NONE}, {8, NONE}, {10, 1}, {11, 3}, {12, -2}});
+        fits(TWO, "paid 0 0;", new int[][] {{0, 2}, {1, 1}, {2, 1}, {3, NONE}, {4, NONE}, {8, NONE}, {9, -2}, {10, 1}, {11, 3}, {12, -2}});
         fits(TWO, "paid 0 5;paid 1 5;", new int[][] {{0, 1}, {1, 0}, {2, 0}, {3, 0}, {10, 0}, {11, -2}});
         fits(TWO, "", new int[][] {{0, 4}, {1, 0}, {2, NONE}, {3, NONE}, {10, 0}, {11, 1}, {12, 2}, {13, 3}, {14, -2}});
         fits(TWO, "paid 0 5;paid 0 0;", new int[][] {{0, 0}, {1, NONE}, {2, NONE}, {3, NONE}, {10, -2}});
-        fits(TWO, "paid 2 0;", new int[][] {{0, 0}, {1, NONE}, {2, NONE}, {4, NONE}, {10, -2}, {-1, -2}, {Integer.MAX_VALUE, -2}});
-        fits("", "", new int[][] {{0, 1}, {1, NONE}, {2, NONE}, {10, 0}, {11, -2}});
+        fits(TWO, "paid 2 0;", new int[][] {{0, 0}, {1, NONE}, {2, NONE}, {4, NONE}, {8, NONE}, {9, -2}, {10, -2}, {-1, -2}, {Integer.MAX_VALUE, -2}});
+        fits("", "", new int[][] {{0, 1}, {1, NONE}, {2, NONE}, {8, NONE}, {9, -2}, {10, 0}, {11, -2}});
         fits("", "paid 0 0;", new int[][] {{0, 0}, {10, -2}});
+        // The last what that is a HOUSE's is 8, of HOUSE 6; 9 is another one.
+        fits("quota 7;" + "house 1 0;".repeat(7), "paid 6 0;", new int[][] {{0, 64}, {2, NONE}, {8, 1}, {9, -2}});
         fits(TWO + "tie 1 0;", "paid 1 0;", new int[][] {{0, 3}, {10, 1}, {11, 2}, {12, 3}});
     }
 

@@ -288,13 +288,13 @@ final class Model {
     }
 
     int text(int sort, int at) {
+        String s = new String(told.tape, StandardCharsets.ISO_8859_1);
+        told.tape = new byte[0];
         told.fault = 0;
         told.place = NONE;
         if (sort < 0 || sort > 2 || at < -1 || at >= list(sort).size() || at == -1 && list(sort).size() == 2) {
             return -2;
         }
-        String s = new String(told.tape, StandardCharsets.ISO_8859_1);
-        told.tape = new byte[0];
         List<List<String>> lines = new ArrayList<>();
         List<List<Integer>> places = new ArrayList<>();
         int broken = split(s, sort, lines, places);
@@ -1059,7 +1059,7 @@ final class Model {
 
     int fits(int parish, int log, int what) {
         Parish p = get(parish);
-        if (p == null || getLog(log) == null || what < 0) {
+        if (p == null || getLog(log) == null || what < 0 || what == 9) {
             return -2;
         }
         List<Integer> fitting = fitting(parish, log);

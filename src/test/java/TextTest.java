@@ -76,7 +76,8 @@ public final class TextTest {
         Checks.feed(x, "quota 3;");
         C.due("text third", x.text(0, NONE), -2);
         C.due("fault", x.fault(0), 0);
-        C.due("text replaces", x.text(0, 1), 1);
+        C.due("quota as before", x.parish(1, 0), 2);
+        C.due("text replaces", Checks.tell(x, 0, 1, "quota 3;"), 1);
         C.due("quota replaced", x.parish(1, 0), 3);
         C.due("quota other", x.parish(0, 0), 1);
         C.due("text fault", Checks.tell(x, 0, 0, "quota;"), NONE);
@@ -95,16 +96,18 @@ public final class TextTest {
         QuotaParish x = new QuotaParish();
         Checks.tell(x, 0, NONE, "quota;");
         C.due("fault before", x.fault(0), 1);
-        Checks.feed(x, "quota 5;");
         int[][] refused = {{-1, NONE}, {3, NONE}, {3, 0}, {0, 0}, {0, 1}, {0, -2}, {1, 0}, {2, 7}};
         for (int[] r : refused) {
+            Checks.feed(x, "quota 5;");
             C.due("text(" + r[0] + ", " + r[1] + ")", x.text(r[0], r[1]), -2);
             C.due("fault then", x.fault(0), 0);
             C.due("place then", x.fault(1), NONE);
+            C.due("the tape is taken", x.end(1), NONE);
         }
-        C.due("no text was read", x.end(8), 8);
-        C.due("text", x.text(0, NONE), 0);
-        C.due("quota", x.parish(0, 0), 5);
+        C.due("the tape begins anew", x.feed(0, 0, 0, 0, 0), 20);
+        for (int sort = 0; sort < 3; sort++) {
+            C.due("no text was read", x.count(sort), 0);
+        }
     }
 
     private static void faulty(int sort, String text, int fault, int place) {
