@@ -1,4 +1,6 @@
 import java.io.IOException;
+import java.util.Set;
+import java.util.TreeSet;
 import java.util.function.IntUnaryOperator;
 
 /** Answers, each under the sentence of the document that asks for it. */
@@ -12,7 +14,7 @@ final class Edges {
     private final Checks checks = new Checks("EdgesTest");
     private final Doc doc = new Doc();
     private String sentence = "";
-    private int sentences = 0;
+    private final Set<String> sentences = new TreeSet<>();
     private int answers = 1;
 
     Edges() throws IOException {
@@ -22,7 +24,7 @@ final class Edges {
     void says(int section, String words) {
         lookAtAnswers();
         sentence = "\"" + words + "\"";
-        sentences++;
+        sentences.add(section + sentence);
         answers = 0;
         if (doc.isThere()) {
             checks.due("stands in section " + section + " of the document: " + sentence, doc.quote(section, words), true);
@@ -89,7 +91,7 @@ final class Edges {
         } else {
             System.out.println("EdgesTest: ../shared/DOC.md is not there, the quotations were not looked up");
         }
-        System.out.println("EdgesTest: " + sentences + " sentences quoted");
+        System.out.println("EdgesTest: " + sentences.size() + " sentences quoted");
         checks.finish();
     }
 }

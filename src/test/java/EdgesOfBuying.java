@@ -172,6 +172,10 @@ final class EdgesOfBuying {
         // The first one's buying spares the second: 3 to 5; the other way round 3 to 0.
         strife("quota 10;price 2;house 5 0;house 5 0;tie 1 0;", 0, 1, new int[] {0, 0}, new int[] {NONE, 0});
         strife("quota 10;price 2;house 5 0;house 5 0;tie 1 0;", 1, 0, new int[] {0, 3}, new int[] {NONE, 1});
+        // None: 0, the first alone 8, the second alone 2, for it spares the first, too, both 0: so the other's turns tell.
+        strife("quota 10;price 2;house 10 0;house 10 0;tie 0 1;", 0, 1, new int[] {0, 8, 0, 2}, new int[] {NONE, 1, 0, 0});
+        // None 1, the first alone 4, the second alone -3, both 1.
+        strife("quota 10;price 2;house 6 0;house 5 0;", 0, 1, new int[] {1, 4, 1, 1}, new int[] {NONE, 1, 1, 0});
         // A third one pays its part and buys nothing.
         strife("quota 9;price 2;house 5 0;house 5 0;house 5 0;", 0, 1, new int[] {0, 3, 0}, new int[] {NONE, 1, 1});
         // One year goes by, with YIELD, and 99 at most.

@@ -76,6 +76,14 @@ final class EdgesOfLogs {
         fits(TWO, "paid 1 0;", new int[][] {{1, 0}});
         fits(TWO, "", new int[][] {{1, 0}});
         fits(TWO, "paid 0 5;", new int[][] {{1, 0}});
+        QuotaParish other = Checks.log(TWO, "");
+        Checks.tell(other, Checks.LOG, NONE, "paid 0 0;");
+        e.due("of all", other.fits(0, 0, 1), 0);
+        e.due("by another LOG then", other.fits(0, 1, 1), 1);
+        // By 1 and 3 the second has 1 and 0.
+        fits("quota 1;house 1 0;house 1 0;", "paid 0 0;", new int[][] {{0, 2}, {1, 1}});
+        // Nobody has any TAX by any of 128.
+        fits("quota 0;" + "house 1 0;".repeat(7), "", new int[][] {{0, 128}, {1, 0}});
         // The first has never any TAX: 8; the others 0 by 4 of 8.
         fits("quota 12;house 0 0;house 6 0;house 3 0;", "", new int[][] {{1, 1}});
         // 0 by 6, by 6, by 4 of 8.

@@ -147,6 +147,7 @@ final class EdgesOfOutlook {
         falls("house 11 0;house 11 0;house 8 0;", 2, 10, 40, 70);
         // Those that are EXEMPT do not count, and have no TAX that could fall.
         falls("house 6 0;house 50 0;house 6 0;house 2 0;office 1;", 3, every7);
+        falls("house 6 0;house 50 0;house 6 0;house 2 0;house 9 0;tie 1 4;office 4;", 3, every7);
         falls("house 6 0;house 6 0;house 2 0;office 2;", 2);
         falls("house 5 0;", 0);
         falls("house 0 0;", 0);
@@ -320,6 +321,10 @@ final class EdgesOfOutlook {
         yields("quota 0;house 5 0;house 95 1;", 1, 4);
         yields("quota 0;house 95 1;house 5 0;", 1, 4);
         yields("quota 1;house 5 0;house 4 1;", 1, 1);
+        QuotaParish other = Checks.parish("quota 0;house 0 9;house 0 9;");
+        Checks.tell(other, Checks.PARISH, NONE, "quota 0;house 5 0;");
+        other.parish(0, 31);
+        e.due("of another PARISH, which has fewer HOUSES", other.passed(1, 1), 0);
     }
 
     private void spread() {
@@ -333,6 +338,8 @@ final class EdgesOfOutlook {
         yields("quota 7;house 3 0;house 0 0;", 2, 7);
         yields("quota 7;house 3 0;house 0 0;office 1;", 2, 0);
         yields("quota 7;", 2, 0);
+        yields("quota 0;house 3 0;house 3 0;", 2, 0);
+        yields("quota 7;house 0 0;house 3 0;office 1;", 2, 0);
 
         e.says(Doc.TERMS, "UNEVEN: couples of HOUSES, neither EXEMPT, that have the same GOODS and unlike TAX.");
         yields("quota 7;house 3 0;house 3 0;house 3 0;", 3, 2);

@@ -138,7 +138,7 @@ final class EdgesOfTexts {
         e.text(YEARS, "cut1 2;", 1, 5);
     }
 
-    /** Every byte behind a whole line, and every byte behind a word: only blanks leave both sound. */
+    /** Every byte behind a whole line, behind a word, and behind a NUMBER, where only one byte makes the text sound. */
     private void everyByte() {
         for (int b = 0; b < 256; b++) {
             char c = (char) b;
@@ -147,6 +147,23 @@ final class EdgesOfTexts {
             boolean digit = b >= 48 && b <= 57;
             e.text(PARISH, "quota 1;" + c, blank ? 0 : 1, blank ? NONE : 8);
             e.text(PARISH, "quota" + c + " 1;", blank ? 0 : 1, blank ? NONE : letter ? 0 : digit ? 7 : 5);
+            e.text(PARISH, "quota 1" + c, c == ';' ? 0 : 1, c == ';' ? NONE : blank || digit ? 8 : 7);
+        }
+        otherWords();
+    }
+
+    /** Each word with another letter in each place, one letter more and one less. */
+    private void otherWords() {
+        String[][] lines = {{"quota 1;", "price 1;", "house 1 1;", "office 0;", "tie 0 1;", "pact 0 1 2;"},
+            {"year;", "buy 0;", "lose 0;", "quota 1;", "price 1;", "cut 0;"}, {"paid 0 0;"}};
+        for (int sort = 0; sort < 3; sort++) {
+            for (String line : lines[sort]) {
+                for (int i = 0; line.charAt(i) >= 'a'; i++) {
+                    e.text(sort, line.substring(0, i) + "x" + line.substring(i + 1), 1, 0);
+                    e.text(sort, line.substring(0, i) + line.substring(i + 1), 1, 0);
+                    e.text(sort, line.substring(0, i) + "x" + line.substring(i), 1, 0);
+                }
+            }
         }
     }
 
@@ -424,6 +441,21 @@ final class EdgesOfTexts {
         }
         e.due("an empty tape is a text", x.text(PARISH, 0), 0);
         e.run("and tells nothing", w -> x.parish(0, w), 0, 10, 10, 0, 0, 0);
+        // Nothing is left of what stood there, nor of a text with a FAULT.
+        QuotaParish y = Checks.parish("quota 1;price 1;" + HOUSES + "office 0;office 6;" + "tie 0 1;".repeat(10));
+        Checks.tell(y, PARISH, 0, "");
+        e.run("all is at first", w -> y.parish(0, w), 0, 10, 10, 0, 0, 0, 0, 10);
+        Checks.tell(y, PARISH, 0, "quota 1;price 1;office 0;tie 0 1;" + HOUSES + "office 7;");
+        Checks.tell(y, PARISH, 0, "house 2 3;");
+        e.run("but one HOUSE", w -> y.parish(0, w), 0, 10, 10, 1, 0, 0, 0, 0);
+        Checks.tell(y, YEARS, NONE, "buy 1;".repeat(40));
+        Checks.tell(y, YEARS, 0, "year;");
+        e.rows("but one DEED", k -> y.deed(0, k, 0), new int[][] {{NONE, 1}, {0, 0}, {1, -2}});
+        e.due("without a number", y.deed(0, 0, 1), NONE);
+        Checks.tell(y, LOG, NONE, "paid 1 1;".repeat(8));
+        Checks.tell(y, LOG, 0, "paid 1 1;paid 7 7;");
+        Checks.tell(y, LOG, 0, "paid 2 3;");
+        e.rows("but one FACT", k -> y.fact(0, k, 0), new int[][] {{NONE, 1}, {0, 2}, {1, -2}});
 
         e.says(4, "NONE: a FAULT.");
         e.due("a FAULT", Checks.tell(x, PARISH, 1, "quota 9;quota"), NONE);
@@ -525,6 +557,7 @@ final class EdgesOfTexts {
         Checks.tell(x, PARISH, 1, "quota 12;house 1 1;");
         Checks.tell(x, YEARS, 0, "year;");
         Checks.tell(x, YEARS, NONE, "year;");
+        Checks.tell(x, LOG, 0, "paid 6 7;");
         Checks.tell(x, LOG, NONE, "paid 6 7;");
         Checks.feed(x, "quota 99;quota 98;");
         e.due("image 1 is another", x.image(1), true);

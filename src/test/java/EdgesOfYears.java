@@ -492,6 +492,8 @@ final class EdgesOfYears {
         String three = "quota 6;price 3;house 20 0;house 20 0;house 20 0;";
         after(three, "", 4, NONE);
         after(three + "office 0;", "year;lose 0;", 4, NONE);
+        after(three, "buy 0;", 4, 0);
+        after(three, "buy 2;buy 0;", 4, 0);
         after(three, "buy 2;", 4, 2);
         after(three, "buy 2;buy 1;", 4, 1);
         after(three, "buy 1;buy 2;lose 2;buy 2;", 4, 2);
@@ -505,6 +507,7 @@ final class EdgesOfYears {
         QuotaParish x = Checks.years("quota 10;price 2;house 3 0;house 9 1;house 8 0;tie 0 2;", "buy 2;year;year;year;");
         // The second owes all: it pays 9 of 10, then 1 and 1.
         e.run("after", w -> x.after(0, 0, w), 0, 2, 1, 2, 2, 2);
+        e.run("asked again", w -> x.after(0, 0, w), 0, 2, 1, 2, 2, 2);
         QuotaParish none = Checks.years("", "");
         e.run("of nothing", w -> none.after(0, 0, w), 0, 0, NONE, 0, NONE, NONE);
         e.says(32, "-2: there is none such (of either), or for another what.");

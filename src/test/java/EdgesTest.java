@@ -13,6 +13,7 @@ public final class EdgesTest {
         new EdgesOfBonds(edges).run();
         new EdgesOfOutlook(edges).run();
         new EdgesOfLogs(edges).run();
+        new EdgesOfRemnants(edges).run();
         edges.finish();
     }
 }
